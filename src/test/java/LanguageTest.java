@@ -5,7 +5,9 @@ import java.lang.reflect.Modifier;
 import java.nio.file.Files;
 import java.nio.file.Path;
 import java.util.HashSet;
+import java.util.Map;
 import java.util.Set;
+import java.util.TreeMap;
 import java.util.TreeSet;
 import java.util.regex.Matcher;
 import java.util.regex.Pattern;
@@ -26,6 +28,8 @@ public final class LanguageTest {
     private static final String WORDS = "import|package|throw|throws|try|catch|finally|synchronized|assert"
             + "|instanceof|null|float|double|String|Math|Integer|Long|System|Arrays|Object|interface|enum"
             + "|record|volatile|native|length|clone|hashCode|equals|getClass";
+
+    private static final int DEPTH = 6;
 
     private static int wrong = 0;
 
@@ -140,11 +144,51 @@ public final class LanguageTest {
                 report("something is made outside a field's initialiser: " + line.trim());
             }
         }
+        lookAtCalls(code);
         // A call with another call among its arguments; the keywords before brackets are no calls.
         String call = "\\b(?!if\\b|for\\b|while\\b|switch\\b|return\\b)\\w+\\(";
         Matcher nested = Pattern.compile(call + "[^();]*" + call).matcher(code);
         while (nested.find()) {
             report("a call stands in another one's arguments: " + nested.group());
         }
+    }
+
+    /** Rules 8 and 10: no recursion, methods short, calls not too deep. */
+    private static void lookAtCalls(String code) {
+        Map<String, String> bodies = new TreeMap<>();
+        String head = "^    (?:public|private)[\\w\\s\\[\\]]*?\\b(\\w+)\\([^)]*\\) \\{\n";
+        Matcher method = Pattern.compile("(?ms)" + head + "(.*?)^    \\}").matcher(code);
+        while (method.find()) {
+            bodies.put(method.group(1), method.group(2));
+            if (method.group(2).lines().count() > 60) {
+                report("method " + method.group(1) + " is too long");
+            }
+        }
+        if (bodies.size() != AmountPlanner.class.getDeclaredMethods().length + 1) {
+            report("not every method was found in the text: " + bodies.keySet());
+        }
+        Set<String> now = bodies.keySet();
+        int depth = 0;
+        // Level by level down from all methods: without recursion a level is empty before long.
+        while (!now.isEmpty() && depth < DEPTH) {
+            depth++;
+            now = calledBy(now, bodies);
+        }
+        if (!now.isEmpty()) {
+            report("calls go more than " + DEPTH + " deep, or a method calls itself, by way of " + now);
+        }
+    }
+
+    private static Set<String> calledBy(Set<String> callers, Map<String, String> bodies) {
+        Set<String> called = new TreeSet<>();
+        for (String caller : callers) {
+            Matcher call = Pattern.compile("\\b(\\w+)\\(").matcher(bodies.get(caller));
+            while (call.find()) {
+                if (bodies.containsKey(call.group(1))) {
+                    called.add(call.group(1));
+                }
+            }
+        }
+        return called;
     }
 }

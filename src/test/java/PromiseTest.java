@@ -1,15 +1,7 @@
 /** Each promise of the document by hand: ordinary inputs, the edges that it names, wrong inputs. */
-public final class PromiseTest {
-    private static final int BAD = -10000000;
-    private static final int FULL = -20000000;
-    private static final int NONE = -30000000;
-    private static final int AT_MOST = 0;
-    private static final int EQUAL = 1;
-    private static final int AT_LEAST = 2;
+public final class PromiseTest extends Check {
     private static final int[] WRONG_ENGINES = {-1, 3, Integer.MIN_VALUE, Integer.MAX_VALUE};
     private static final int[] WRONG_AMOUNTS = {-1, 3, 5, Integer.MIN_VALUE, Integer.MAX_VALUE};
-
-    private static int wrong = 0;
 
     public static void main(String[] args) {
         newObject();
@@ -30,50 +22,7 @@ public final class PromiseTest {
         wholes();
         questionsChangeNothing();
         objectsAreApart();
-        if (wrong != 0) {
-            System.out.println(wrong + " answers are not as due");
-            System.exit(1);
-        }
-        System.out.println("all answers are as due");
-    }
-
-    private static void due(String call, long got, long want) {
-        if (got != want) {
-            wrong++;
-            System.out.println(call + " answered " + got + ", due is " + want);
-        }
-    }
-
-    private static void due(String call, boolean got, boolean want) {
-        if (got != want) {
-            wrong++;
-            System.out.println(call + " answered " + got + ", due is " + want);
-        }
-    }
-
-    private static int three(int n0, int n1, int n2) {
-        return (n0 + 7) + 15 * (n1 + 7) + 225 * (n2 + 7);
-    }
-
-    private static void dueBest(String when, AmountPlanner x, int top, int bottom) {
-        for (int engine = 0; engine <= 2; engine++) {
-            due(when + ": bestTop(" + engine + ")", x.bestTop(engine), top);
-            due(when + ": bestBottom(" + engine + ")", x.bestBottom(engine), bottom);
-        }
-    }
-
-    private static void duePoint(String when, AmountPlanner x, int... topsAndBottoms) {
-        for (int i = 0; i < 3; i++) {
-            due(when + ": pointTop(" + i + ")", x.pointTop(i), topsAndBottoms[2 * i]);
-            due(when + ": pointBottom(" + i + ")", x.pointBottom(i), topsAndBottoms[2 * i + 1]);
-        }
-    }
-
-    private static void dueReach(String when, AmountPlanner x, int i, int... fractions) {
-        due(when + ": reachTop(" + i + ", 0)", x.reachTop(i, 0), fractions[0]);
-        due(when + ": reachBottom(" + i + ", 0)", x.reachBottom(i, 0), fractions[1]);
-        due(when + ": reachTop(" + i + ", 1)", x.reachTop(i, 1), fractions[2]);
-        due(when + ": reachBottom(" + i + ", 1)", x.reachBottom(i, 1), fractions[3]);
+        end();
     }
 
     private static AmountPlanner withoutPoint() {
@@ -214,38 +163,36 @@ public final class PromiseTest {
     // Promise 6
     private static void feasible() {
         AmountPlanner x = new AmountPlanner();
-        dueFeasible("no condition", x, true);
+        dueByAnyEngine("no condition", x, true);
         x.add(three(1, 1, 1), AT_LEAST, 60);
-        dueFeasible("the far corner alone", x, true);
+        dueByAnyEngine("the far corner alone", x, true);
         x.add(three(7, 7, 6), AT_MOST, 99);
-        dueFeasible("too much asked", x, false);
+        dueByAnyEngine("too much asked", x, false);
         x.remove(0);
-        dueFeasible("the second alone", x, true);
+        dueByAnyEngine("the second alone", x, true);
         x.add(three(-1, 0, 0), AT_LEAST, 0);
-        dueFeasible("x0 is 0", x, true);
+        dueByAnyEngine("x0 is 0", x, true);
         x.add(three(0, 0, 3), EQUAL, 61);
-        dueFeasible("x2 above 20", x, false);
+        dueByAnyEngine("x2 above 20", x, false);
         AmountPlanner y = new AmountPlanner();
         y.add(three(0, 0, 0), EQUAL, 0);
-        dueFeasible("0 = 0", y, true);
+        dueByAnyEngine("0 = 0", y, true);
         y.add(three(0, 0, 0), AT_MOST, -1);
-        dueFeasible("0 <= -1", y, false);
+        dueByAnyEngine("0 <= -1", y, false);
         AmountPlanner z = new AmountPlanner();
         z.add(three(2, 0, 0), EQUAL, 1);
         z.add(three(3, 3, 0), EQUAL, 2);
-        dueFeasible("x0 = 1/2, x0 + x1 = 2/3", z, true);
+        dueByAnyEngine("x0 = 1/2, x0 + x1 = 2/3", z, true);
         z.add(three(0, 6, 0), AT_MOST, 0);
-        dueFeasible("and x1 <= 0", z, false);
+        dueByAnyEngine("and x1 <= 0", z, false);
         AmountPlanner thin = new AmountPlanner();
         thin.add(three(7, 0, 0), EQUAL, 1);
         thin.add(three(6, 0, 0), AT_LEAST, 1);
-        dueFeasible("x0 = 1/7 and x0 >= 1/6", thin, false);
+        dueByAnyEngine("x0 = 1/7 and x0 >= 1/6", thin, false);
     }
 
-    private static void dueFeasible(String when, AmountPlanner x, boolean want) {
-        for (int engine = 0; engine <= 2; engine++) {
-            due(when + ": feasible(" + engine + ")", x.feasible(engine), want);
-        }
+    private static void dueByAnyEngine(String when, AmountPlanner x, boolean want) {
+        dueFeasible(when, x, want);
         for (int engine : WRONG_ENGINES) {
             due(when + ": feasible(" + engine + ")", x.feasible(engine), false);
         }
