@@ -1,7 +1,7 @@
 import java.util.LinkedHashSet;
 import java.util.Set;
-import java.util.function.Consumer;
 import java.util.function.Supplier;
+import java.util.function.ToIntFunction;
 
 /**
  * Refused calls, in states of every kind: each argument next to its least and greatest allowed value
@@ -108,12 +108,13 @@ public final class RefusalTest extends Check {
         return text.toString();
     }
 
-    private static void changesNothing(State state, String calls, Consumer<AmountPlanner> refused) {
+    /** One refused call on an object of its own; a boolean counts 1 or 0. */
+    private static void refused(State state, String call, ToIntFunction<AmountPlanner> made, int want) {
         AmountPlanner x = state.maker.get();
-        refused.accept(x);
+        due(state.name + ": " + call, made.applyAsInt(x), want);
         String got = later(x);
         if (!got.equals(state.later)) {
-            report(state.name + ": after refused calls of " + calls + "\n  " + got + "\nis not\n  " + state.later);
+            report(state.name + ": after " + call + "\n  " + got + "\nis not\n  " + state.later);
         }
     }
 
@@ -131,129 +132,96 @@ public final class RefusalTest extends Check {
     }
 
     private static void refusals(State state) {
-        changesNothing(state, "add by its numbers", x -> addsByNumbers(state, x));
-        changesNothing(state, "add by its kind", x -> addsByKind(state, x));
-        changesNothing(state, "add by its b", x -> addsByB(state, x));
-        changesNothing(state, "add when full", x -> addsWhenFull(state, x));
-        changesNothing(state, "remove", x -> removes(state, x));
-        changesNothing(state, "goal", x -> goals(state, x));
-        changesNothing(state, "feasible", x -> engines(state, x));
-        changesNothing(state, "bestTop and bestBottom", x -> bests(state, x));
-        changesNothing(state, "pointTop and pointBottom", x -> points(state, x));
-        changesNothing(state, "reachTop", x -> reachTops(state, x));
-        changesNothing(state, "reachBottom", x -> reachBottoms(state, x));
-        changesNothing(state, "redundant", x -> redundants(state, x));
+        adds(state);
+        addsWhenFull(state);
+        goals(state);
+        numbersOfNone(state);
+        engines(state);
+        points(state);
+        reaches(state);
         // Where there is no point, most of these are refused.
-        changesNothing(state, "every question", x -> shown(x));
+        refused(state, "every question", x -> shown(x).isEmpty() ? 1 : 0, 0);
     }
 
-    private static void addsByNumbers(State state, AmountPlanner x) {
+    private static void adds(State state) {
         for (int numbers : outside(0, 3374)) {
-            due(state.name + ": add(" + numbers + ", 0, 0)", x.add(numbers, 0, 0), BAD);
-            due(state.name + ": add(" + numbers + ", 2, 99)", x.add(numbers, 2, 99), BAD);
-            due(state.name + ": add(" + numbers + ", 1, -99)", x.add(numbers, 1, -99), BAD);
+            refused(state, "add(" + numbers + ", 0, 0)", x -> x.add(numbers, 0, 0), BAD);
+            refused(state, "add(" + numbers + ", 2, 99)", x -> x.add(numbers, 2, 99), BAD);
         }
-    }
-
-    private static void addsByKind(State state, AmountPlanner x) {
         for (int kind : outside(0, 2)) {
-            due(state.name + ": add(0, " + kind + ", -99)", x.add(0, kind, -99), BAD);
-            due(state.name + ": add(1688, " + kind + ", 0)", x.add(1688, kind, 0), BAD);
-            due(state.name + ": add(3374, " + kind + ", 99)", x.add(3374, kind, 99), BAD);
+            refused(state, "add(0, " + kind + ", -99)", x -> x.add(0, kind, -99), BAD);
+            refused(state, "add(3374, " + kind + ", 99)", x -> x.add(3374, kind, 99), BAD);
         }
-    }
-
-    private static void addsByB(State state, AmountPlanner x) {
         for (int b : outside(-99, 99)) {
-            for (int kind = 0; kind <= 2; kind++) {
-                due(state.name + ": add(0, " + kind + ", " + b + ")", x.add(0, kind, b), BAD);
-                due(state.name + ": add(3374, " + kind + ", " + b + ")", x.add(3374, kind, b), BAD);
+            for (int kind : new int[] {AT_MOST, EQUAL, AT_LEAST}) {
+                refused(state, "add(1688, " + kind + ", " + b + ")", x -> x.add(1688, kind, b), BAD);
             }
         }
     }
 
-    private static void addsWhenFull(State state, AmountPlanner x) {
+    private static void addsWhenFull(State state) {
         if (state.bits == 31) {
-            for (int kind = 0; kind <= 2; kind++) {
-                due(state.name + ": add(0, " + kind + ", -99)", x.add(0, kind, -99), FULL);
-                due(state.name + ": add(1687, " + kind + ", 0)", x.add(1687, kind, 0), FULL);
-                due(state.name + ": add(3374, " + kind + ", 99)", x.add(3374, kind, 99), FULL);
+            for (int kind : new int[] {AT_MOST, EQUAL, AT_LEAST}) {
+                refused(state, "add(0, " + kind + ", -99)", x -> x.add(0, kind, -99), FULL);
+                refused(state, "add(1687, " + kind + ", 0)", x -> x.add(1687, kind, 0), FULL);
+                refused(state, "add(3374, " + kind + ", 99)", x -> x.add(3374, kind, 99), FULL);
             }
         }
     }
 
-    private static void removes(State state, AmountPlanner x) {
-        for (int k : outside(0, 4)) {
-            due(state.name + ": remove(" + k + ")", x.remove(k), false);
-        }
-        for (int k = 0; k < 5; k++) {
-            if ((state.bits >> k & 1) == 0) {
-                due(state.name + ": remove(" + k + ")", x.remove(k), false);
-            }
-        }
-    }
-
-    private static void goals(State state, AmountPlanner x) {
+    private static void goals(State state) {
         for (int numbers : outside(0, 3374)) {
-            due(state.name + ": goal(" + numbers + ")", x.goal(numbers), false);
+            refused(state, "goal(" + numbers + ")", x -> x.goal(numbers) ? 1 : 0, 0);
         }
     }
 
-    private static void engines(State state, AmountPlanner x) {
-        for (int engine : outside(0, 2)) {
-            due(state.name + ": feasible(" + engine + ")", x.feasible(engine), false);
-        }
-    }
-
-    private static void bests(State state, AmountPlanner x) {
-        for (int engine : outside(0, 2)) {
-            due(state.name + ": bestTop(" + engine + ")", x.bestTop(engine), BAD);
-            due(state.name + ": bestBottom(" + engine + ")", x.bestBottom(engine), BAD);
-        }
-    }
-
-    private static void points(State state, AmountPlanner x) {
-        for (int i : outside(0, 2)) {
-            due(state.name + ": pointTop(" + i + ")", x.pointTop(i), BAD);
-            due(state.name + ": pointBottom(" + i + ")", x.pointBottom(i), BAD);
-        }
-    }
-
-    private static void reachTops(State state, AmountPlanner x) {
-        for (int i : outside(0, 2)) {
-            for (int what : new int[] {0, 1, -1, 2, i}) {
-                due(state.name + ": reachTop(" + i + ", " + what + ")", x.reachTop(i, what), BAD);
-            }
-        }
-        for (int what : outside(0, 1)) {
-            for (int i : AMOUNTS) {
-                due(state.name + ": reachTop(" + i + ", " + what + ")", x.reachTop(i, what), BAD);
-            }
-        }
-    }
-
-    private static void reachBottoms(State state, AmountPlanner x) {
-        for (int i : outside(0, 2)) {
-            for (int what : new int[] {0, 1, -1, 2, i}) {
-                due(state.name + ": reachBottom(" + i + ", " + what + ")", x.reachBottom(i, what), BAD);
-            }
-        }
-        for (int what : outside(0, 1)) {
-            for (int i : AMOUNTS) {
-                due(state.name + ": reachBottom(" + i + ", " + what + ")", x.reachBottom(i, what), BAD);
-            }
-        }
-    }
-
-    private static void redundants(State state, AmountPlanner x) {
+    private static void numbersOfNone(State state) {
         for (int k : outside(0, 4)) {
-            due(state.name + ": redundant(" + k + ")", x.redundant(k), false);
+            numberOfNone(state, k);
         }
         for (int k = 0; k < 5; k++) {
             if ((state.bits >> k & 1) == 0) {
-                due(state.name + ": redundant(" + k + ")", x.redundant(k), false);
+                numberOfNone(state, k);
             }
         }
+    }
+
+    private static void numberOfNone(State state, int k) {
+        refused(state, "remove(" + k + ")", x -> x.remove(k) ? 1 : 0, 0);
+        refused(state, "redundant(" + k + ")", x -> x.redundant(k) ? 1 : 0, 0);
+    }
+
+    private static void engines(State state) {
+        for (int engine : outside(0, 2)) {
+            refused(state, "feasible(" + engine + ")", x -> x.feasible(engine) ? 1 : 0, 0);
+            refused(state, "bestTop(" + engine + ")", x -> x.bestTop(engine), BAD);
+            refused(state, "bestBottom(" + engine + ")", x -> x.bestBottom(engine), BAD);
+        }
+    }
+
+    private static void points(State state) {
+        for (int i : outside(0, 2)) {
+            refused(state, "pointTop(" + i + ")", x -> x.pointTop(i), BAD);
+            refused(state, "pointBottom(" + i + ")", x -> x.pointBottom(i), BAD);
+        }
+    }
+
+    private static void reaches(State state) {
+        for (int i : outside(0, 2)) {
+            reach(state, i, 0);
+            reach(state, i, 1);
+            reach(state, i, i);
+        }
+        for (int what : outside(0, 1)) {
+            for (int i : AMOUNTS) {
+                reach(state, i, what);
+            }
+        }
+    }
+
+    private static void reach(State state, int i, int what) {
+        refused(state, "reachTop(" + i + ", " + what + ")", x -> x.reachTop(i, what), BAD);
+        refused(state, "reachBottom(" + i + ", " + what + ")", x -> x.reachBottom(i, what), BAD);
     }
 
     // Promise 2: "BAD when numbers .., kind .., or b ..; FULL when there are five (tested in this order)"
