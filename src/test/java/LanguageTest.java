@@ -4,64 +4,33 @@ import java.lang.reflect.Method;
 import java.lang.reflect.Modifier;
 import java.nio.file.Files;
 import java.nio.file.Path;
-import java.util.HashSet;
-import java.util.Map;
+import java.util.List;
 import java.util.Set;
-import java.util.TreeMap;
 import java.util.TreeSet;
-import java.util.regex.Matcher;
-import java.util.regex.Pattern;
 
-/**
- * The public face, and those rules of LANGUAGE.md that can be read off the class or its text. The
- * text's path is the argument.
- */
-public final class LanguageTest {
-    private static final String[] FACE = {
-        "int add(int, int, int)", "boolean remove(int)", "int conditions()", "boolean goal(int)",
-        "boolean feasible(int)", "int bestTop(int)", "int bestBottom(int)", "int pointTop(int)",
-        "int pointBottom(int)", "int tight()", "int reachTop(int, int)", "int reachBottom(int, int)",
-        "boolean redundant(int)", "int whole()", "int wholePoint()", "int wholes()"};
-    private static final Set<Class<?>> TYPES = Set.of(int.class, long.class, short.class, byte.class,
-            char.class, boolean.class, int[].class, long[].class, short[].class, byte[].class,
-            char[].class, boolean[].class);
-    private static final String WORDS = "import|package|throw|throws|try|catch|finally|synchronized|assert"
-            + "|instanceof|null|float|double|String|Math|Integer|Long|System|Arrays|Object|interface|enum"
-            + "|record|volatile|native|length|clone|hashCode|equals|getClass";
+/** The public face, and the rules of LANGUAGE.md. The path of the program's text is the argument. */
+public final class LanguageTest extends Check {
+    private static final Set<String> FACE = Set.of(
+            "int add(int, int, int)", "boolean remove(int)", "int conditions()", "boolean goal(int)",
+            "boolean feasible(int)", "int bestTop(int)", "int bestBottom(int)", "int pointTop(int)",
+            "int pointBottom(int)", "int tight()", "int reachTop(int, int)", "int reachBottom(int, int)",
+            "boolean redundant(int)", "int whole()", "int wholePoint()", "int wholes()");
+    private static final Set<String> CONSTANTS =
+            Set.of("int BAD -10000000", "int FULL -20000000", "int NONE -30000000");
 
-    private static final int DEPTH = 6;
-
-    private static int wrong = 0;
-
-    public static void main(String[] args) throws IOException {
-        lookAtClass();
-        lookAtFields();
+    public static void main(String[] args) throws IOException, IllegalAccessException {
+        lookAtConstructors();
+        lookAtConstants();
         lookAtMethods();
-        if (args.length != 1) {
-            report("the path of the program's text was not given");
-        } else {
-            lookAtText(Files.readString(Path.of(args[0])));
-        }
-        if (wrong != 0) {
-            System.out.println(wrong + " faults");
-            System.exit(1);
-        }
-        System.out.println("the face and the rules are kept");
+        lookAtRules(args);
+        rulesAreNoticed();
+        end();
     }
 
-    private static void report(String fault) {
-        wrong++;
-        System.out.println(fault);
-    }
-
-    private static void lookAtClass() {
+    private static void lookAtConstructors() {
         Class<?> c = AmountPlanner.class;
         if (!Modifier.isPublic(c.getModifiers()) || !Modifier.isFinal(c.getModifiers())) {
             report("the class is not public and final");
-        }
-        if (c.getSuperclass() != Object.class || c.getInterfaces().length != 0
-                || c.getDeclaredClasses().length != 0) {
-            report("the class extends, implements or nests another one");
         }
         if (c.getDeclaredConstructors().length != 1 || c.getConstructors().length != 1
                 || c.getConstructors()[0].getParameterCount() != 0) {
@@ -69,126 +38,157 @@ public final class LanguageTest {
         }
     }
 
-    private static void lookAtFields() {
+    private static void lookAtConstants() throws IllegalAccessException {
         Set<String> constants = new TreeSet<>();
-        int fields = 0;
         for (Field field : AmountPlanner.class.getDeclaredFields()) {
-            int modifiers = field.getModifiers();
-            boolean constant = Modifier.isStatic(modifiers) && Modifier.isFinal(modifiers);
-            fields += constant ? 0 : 1;
-            if (Modifier.isPublic(modifiers) && constant) {
-                constants.add(field.getType() + " " + field.getName());
-            } else if (!Modifier.isPrivate(modifiers)) {
-                report("field " + field.getName() + " is not private");
-            }
-            if (Modifier.isStatic(modifiers)
-                    && !(constant && (field.getType() == int.class || field.getType() == long.class))) {
-                report("static field " + field.getName() + " is not a constant of int or long");
-            }
-            if (!TYPES.contains(field.getType())) {
-                report("field " + field.getName() + " has type " + field.getType());
+            if (!Modifier.isPrivate(field.getModifiers())) {
+                constants.add(field.getType() + " " + field.getName() + " " + field.get(null));
             }
         }
-        if (!constants.equals(Set.of("int BAD", "int FULL", "int NONE"))) {
+        if (!constants.equals(CONSTANTS)) {
             report("the public constants are " + constants);
-        }
-        if (fields > 40) {
-            report("there are " + fields + " fields");
         }
     }
 
     private static void lookAtMethods() {
         Set<String> face = new TreeSet<>();
-        Set<String> publicNames = new HashSet<>();
         for (Method method : AmountPlanner.class.getDeclaredMethods()) {
-            if (Modifier.isPublic(method.getModifiers())) {
+            if (!Modifier.isPrivate(method.getModifiers())) {
                 face.add(described(method));
-                publicNames.add(method.getName());
             }
         }
-        if (!face.equals(new TreeSet<>(Set.of(FACE)))) {
+        if (!face.equals(FACE)) {
             report("the public methods are " + face);
-        }
-        for (Method method : AmountPlanner.class.getDeclaredMethods()) {
-            boolean hidden = Modifier.isPrivate(method.getModifiers());
-            if (!hidden && !Modifier.isPublic(method.getModifiers())) {
-                report("method " + method.getName() + " is neither public nor private");
-            }
-            if (hidden && publicNames.contains(method.getName())) {
-                report("private method " + method.getName() + " bears the name of a public one");
-            }
-            if (method.getParameterCount() > 7 || method.getReturnType().isArray()) {
-                report("method " + method.getName() + " takes too much or answers an array");
-            }
         }
     }
 
     private static String described(Method method) {
-        StringBuilder text = new StringBuilder();
+        StringBuilder types = new StringBuilder();
         for (Class<?> type : method.getParameterTypes()) {
-            text.append(text.length() == 0 ? "" : ", ").append(type);
+            types.append(types.length() == 0 ? "" : ", ").append(type);
         }
-        String kept = Modifier.isStatic(method.getModifiers()) ? "static " : "";
-        return kept + method.getReturnType() + " " + method.getName() + "(" + text + ")";
+        String kept = Modifier.toString(method.getModifiers() & ~Modifier.PUBLIC);
+        String head = kept.isEmpty() ? "" : kept + " ";
+        return head + method.getReturnType() + " " + method.getName() + "(" + types + ")";
     }
 
-    private static void lookAtText(String text) {
-        String code = text.replaceAll("(?s)/\\*.*?\\*/", "").replaceAll("//[^\n]*", "");
-        Matcher word = Pattern.compile("\\b(" + WORDS + ")\\b|->|::|\"|\\[\\s*\\]\\s*\\[").matcher(code);
-        while (word.find()) {
-            report("the text has " + word.group());
+    private static void lookAtRules(String[] args) throws IOException {
+        if (args.length != 1) {
+            report("the path of the program's text was not given");
+            return;
         }
-        Pattern made = Pattern.compile("    private final \\w+\\[\\] \\w+ = new \\w+\\[([A-Z_]+|[0-9]+)\\];");
-        for (String line : code.split("\n")) {
-            if (line.matches(".*\\bnew\\b.*") && !made.matcher(line).matches()) {
-                report("something is made outside a field's initialiser: " + line.trim());
-            }
-        }
-        lookAtCalls(code);
-        // A call with another call among its arguments; the keywords before brackets are no calls.
-        String call = "\\b(?!if\\b|for\\b|while\\b|switch\\b|return\\b)\\w+\\(";
-        Matcher nested = Pattern.compile(call + "[^();]*" + call).matcher(code);
-        while (nested.find()) {
-            report("a call stands in another one's arguments: " + nested.group());
+        for (String fault : LanguageRules.faults("AmountPlanner", Files.readString(Path.of(args[0])))) {
+            report("rule " + fault);
         }
     }
 
-    /** Rules 8 and 10: no recursion, methods short, calls not too deep. */
-    private static void lookAtCalls(String code) {
-        Map<String, String> bodies = new TreeMap<>();
-        String head = "^    (?:public|private)[\\w\\s\\[\\]]*?\\b(\\w+)\\([^)]*\\) \\{\n";
-        Matcher method = Pattern.compile("(?ms)" + head + "(.*?)^    \\}").matcher(code);
-        while (method.find()) {
-            bodies.put(method.group(1), method.group(2));
-            if (method.group(2).lines().count() > 60) {
-                report("method " + method.group(1) + " is too long");
-            }
-        }
-        if (bodies.size() != AmountPlanner.class.getDeclaredMethods().length + 1) {
-            report("not every method was found in the text: " + bodies.keySet());
-        }
-        Set<String> now = bodies.keySet();
-        int depth = 0;
-        // Level by level down from all methods: without recursion a level is empty before long.
-        while (!now.isEmpty() && depth < DEPTH) {
-            depth++;
-            now = calledBy(now, bodies);
-        }
-        if (!now.isEmpty()) {
-            report("calls go more than " + DEPTH + " deep, or a method calls itself, by way of " + now);
-        }
+    /** A look at the rules that never finds anything would be worth nothing. */
+    private static void rulesAreNoticed() throws IOException {
+        dueRule(0, "", "");
+        membersAreNoticed();
+        statementsAreNoticed();
+        loopsAreNoticed();
+        callsAreNoticed();
+        dueRuleOf(1, "package p; " + small("", ""));
+        dueRuleOf(1, "import java.util.List; " + small("", ""));
+        dueRuleOf(1, small("", "") + " class Other { }");
+        dueRuleOf(1, "public class Small { }");
+        dueRuleOf(1, "public final class Another { }");
     }
 
-    private static Set<String> calledBy(Set<String> callers, Map<String, String> bodies) {
-        Set<String> called = new TreeSet<>();
-        for (String caller : callers) {
-            Matcher call = Pattern.compile("\\b(\\w+)\\(").matcher(bodies.get(caller));
-            while (call.find()) {
-                if (bodies.containsKey(call.group(1))) {
-                    called.add(call.group(1));
-                }
-            }
+    private static void membersAreNoticed() throws IOException {
+        dueRule(1, "int open;", "");
+        dueRule(1, "public int open;", "");
+        dueRule(1, "int open() { return 1; }", "");
+        dueRule(1, "private void ask() { }", "");
+        dueRule(1, "private static class Inner { }", "");
+        dueRule(1, "private enum Inner { ONE }", "");
+        dueRule(2, "private float part;", "");
+        dueRule(2, "private String text;", "");
+        dueRule(2, "private final int[][] table = new int[3][3];", "");
+        dueRule(4, "private int[] more = new int[3];", "");
+        dueRule(4, "private final int[] more = new int[0];", "");
+        dueRule(4, "private final int[] more = new int[SIZE + 1];", "");
+        dueRule(4, "private final int[] more = {1, 2};", "");
+        dueRule(4, "private final int[] more = cells;", "");
+        dueRule(4, "private int[] all() { return cells; }", "");
+        dueRule(5, "private static int counted = 0;", "");
+        dueRule(5, "private static final boolean YES = true;", "");
+        dueRule(5, "private static final int[] KEPT = new int[3];", "");
+        dueRule(5, "static { }", "");
+        dueRule(6, "private synchronized void wait1() { }", "");
+    }
+
+    private static void statementsAreNoticed() throws IOException {
+        dueRule(2, "", "double part = 1;");
+        dueRule(2, "", "var part = 1;");
+        dueRule(2, "", "i = (int) (double) i;");
+        dueRule(2, "", "i = 1.5 > i ? 1 : 2;");
+        dueRule(2, "", "new Object();");
+        dueRule(2, "", "if (null == null) { i = 1; }");
+        dueRule(3, "", "i = \"text\".length();");
+        dueRule(3, "", "hashCode();");
+        dueRule(3, "", "i = Math.abs(i);");
+        dueRule(4, "", "int[] more = new int[3];");
+        dueRule(4, "", "int[] more = cells;");
+        dueRule(4, "", "if (cells == cells) { i = 1; }");
+        dueRule(4, "", "cells = cells;");
+        dueRule(6, "", "throw null;");
+        dueRule(6, "", "assert i > 0;");
+        dueRule(6, "", "try { i = 1; } finally { i = 2; }");
+        dueRule(6, "", "Runnable r = () -> { };");
+    }
+
+    private static void loopsAreNoticed() throws IOException {
+        dueRule(0, "", "for (int k = i; k <= 7 && i > 0; k++) { i = k; }");
+        dueRule(8, "", "for (int k = 0; k < i; k++) { i = 1; }");
+        dueRule(8, "", "for (int k = 0; i > 0 && k < 7; k++) { i = 1; }");
+        dueRule(8, "", "for (int k = 0; k < 7 || i > 0; k++) { i = 1; }");
+        dueRule(8, "", "for (int k = 0; k < 7; k--) { i = 1; }");
+        dueRule(8, "", "for (int k = 0; k < 7; i++) { i = 1; }");
+        dueRule(8, "", "for (int k = 0; k < 7; k++) { k = 0; }");
+        dueRule(8, "", "for (int k = 0; k < 7; k++) { k--; }");
+        dueRule(8, "", "for (int k = 0; k < 7; k++) { k += i; }");
+        dueRule(8, "", "for (int k = 0; k < 7 && (k = i) > 0; k++) { i = 1; }");
+        dueRule(8, "", "for (int k = 0; k <= 2147483647; k++) { i = 1; }");
+        dueRule(8, "", "for (byte k = 0; k < 200; k++) { i = 1; }");
+        dueRule(8, "", "for (; ; ) { i = 1; }");
+        dueRule(8, "", "while (i > 0) { i--; }");
+        dueRule(8, "", "do { i--; } while (i > 0);");
+    }
+
+    private static void callsAreNoticed() throws IOException {
+        dueRule(8, "private int again(int i) { return again(i); }", "");
+        dueRule(8, "private int one(int i) { return two(i); } private int two(int i) { return one(i); }", "");
+        dueRule(10, "", "i = help(help(i));");
+        dueRule(10, "", "i = help(1 + (i > 0 ? help(i) : 2));");
+        dueRule(10, "private void much(int a, int b, int c, int d, int e, int f, int g, int h) { }", "");
+        dueRule(10, "", "i = 1;" + "\n".repeat(60));
+        dueRule(10, "private int some;".repeat(40), "");
+        // help calls nothing: with ask that makes two, and each of these one more.
+        String chain = "private int a(int i) { return help(i); } private int b(int i) { return a(i); }"
+                + "private int c(int i) { return b(i); } private int d(int i) { return c(i); }";
+        dueRule(0, chain, "i = d(i);");
+        dueRule(10, chain + "private int e(int i) { return d(i); }", "i = e(i);");
+    }
+
+    private static String small(String member, String statement) {
+        return "public final class Small { private static final int SIZE = 3;"
+                + " private final int[] cells = new int[SIZE]; " + member
+                + " public int ask(int i) { " + statement + " return help(i); }"
+                + " private int help(int i) { for (int k = 0; k < SIZE; k++) { cells[k] = i; } return i; } }";
+    }
+
+    private static void dueRule(int rule, String member, String statement) throws IOException {
+        dueRuleOf(rule, small(member, statement));
+    }
+
+    /** Rule 0 stands for no fault at all. */
+    private static void dueRuleOf(int rule, String text) throws IOException {
+        List<String> faults = LanguageRules.faults("Small", text);
+        boolean found = faults.stream().anyMatch(fault -> fault.startsWith(rule + ":"));
+        if (rule == 0 ? !faults.isEmpty() : !found) {
+            report("rule " + rule + " is due, but these are noticed: " + faults + " in " + text);
         }
-        return called;
     }
 }
